@@ -1526,12 +1526,12 @@ public final class HandleFaces {
             count = 0;
             girth = 0;
             for (start = 0; start < drawing.posts; start++) {
-                goOn(drawing, start, NONE, 1 << start, 0);
+                goOn(this, drawing, start, NONE, 1 << start, 0);
             }
             count /= 2;
         }
 
-        private void goOn(Drawing drawing, int post, int lastLine, int seen, int length) {
+        private static void goOn(Rings found, Drawing drawing, int post, int lastLine, int seen, int length) {
             if (length >= MOST_POSTS) {
                 return;
             }
@@ -1541,13 +1541,17 @@ public final class HandleFaces {
                 if (arm >> 1 == lastLine) {
                     continue;
                 }
-                if (other == start) {
-                    count++;
-                    girth = girth == 0 ? length + 1 : Math.min(girth, length + 1);
-                } else if (other > start && (seen >> other & 1) == 0) {
-                    goOn(drawing, other, arm >> 1, seen | 1 << other, length + 1);
+                if (other == found.start) {
+                    found.addRing(length + 1);
+                } else if (other > found.start && (seen >> other & 1) == 0) {
+                    goOn(found, drawing, other, arm >> 1, seen | 1 << other, length + 1);
                 }
             }
+        }
+
+        private void addRing(int length) {
+            count++;
+            girth = girth == 0 ? length : Math.min(girth, length);
         }
     }
 
@@ -1612,7 +1616,7 @@ public final class HandleFaces {
 
         int fewest(Tracing faces) {
             for (int most = 0; most < faces.count; most++) {
-                if (paint(faces, 0, 0, most)) {
+                if (paint(faces, painted, 0, 0, most)) {
                     return most;
                 }
             }
@@ -1620,14 +1624,14 @@ public final class HandleFaces {
         }
 
         /** Faces from one on get colours; used: how many the ones ahead have, of which one new is as good as any. */
-        private boolean paint(Tracing faces, int face, int used, int most) {
+        private static boolean paint(Tracing faces, int[] painted, int face, int used, int most) {
             if (face >= faces.count || face >= MOST_FACES) {
                 return true;
             }
             for (int colour = 0; colour <= used && colour < most; colour++) {
-                if (isFree(faces, face, colour)) {
+                if (isFree(faces, painted, face, colour)) {
                     painted[face] = colour;
-                    if (paint(faces, face + 1, Math.max(used, colour + 1), most)) {
+                    if (paint(faces, painted, face + 1, Math.max(used, colour + 1), most)) {
                         return true;
                     }
                 }
@@ -1635,7 +1639,7 @@ public final class HandleFaces {
             return false;
         }
 
-        private boolean isFree(Tracing faces, int face, int colour) {
+        private static boolean isFree(Tracing faces, int[] painted, int face, int colour) {
             for (int other = 0; other < face; other++) {
                 if (painted[other] == colour && (faces.neighbours[face] >> other & 1) != 0) {
                     return false;
