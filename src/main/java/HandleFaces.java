@@ -1082,8 +1082,8 @@ public final class HandleFaces {
             int left = linesOf(post);
             int t = nameAt + 1;
             for (; t < text.tokens && text.kinds[t] == Scanner.INT_TOKEN; t++) {
-                long line = text.values[t];
-                if (line >= lines || (left >> line & 1) == 0) {
+                int line = (int) text.values[t];
+                if (line < 0 || line >= lines || (left >> line & 1) == 0) {
                     fail(WRONG, text.places[t]);
                     return;
                 }
@@ -1486,7 +1486,11 @@ public final class HandleFaces {
             for (int other = post + 1; other < drawing.posts; other++) {
                 later *= ordersOf(drawing, other);
             }
-            int number = (int) (n / later % ordersOf(drawing, post));
+            int own = ordersOf(drawing, post);
+            if (later <= 0 || own <= 0) {
+                return NONE;
+            }
+            int number = (int) (n / later % own);
             int left = 0;
             for (int k = 0; k < drawing.degrees[post]; k++) {
                 left |= 1 << drawing.lineAt(post, k);
@@ -1494,7 +1498,7 @@ public final class HandleFaces {
             int line = lowestBut(left, 0);
             for (int k = 1; k <= i; k++) {
                 left &= ~(1 << line);
-                int each = factorial(drawing.degrees[post] - 1 - k);
+                int each = Math.max(1, factorial(drawing.degrees[post] - 1 - k));
                 line = lowestBut(left, number / each);
                 number %= each;
             }

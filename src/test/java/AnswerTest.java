@@ -210,7 +210,7 @@ public final class AnswerTest {
         CHECKS.due("K4", Checks.drawn(FOUR).capped(), 0);
         CHECKS.due("K5: too many", Checks.drawn(FIVE).capped(), -2);
         CHECKS.due("bare posts", Checks.drawn(POSTS_6).capped(), 0);
-        // 2 * 6 * 6 * 2 * 2 * 2 = 576 of all rounds, 10 lines but 5: 18,432 ways; 6 * 6 * 6 * 24: too many
+        // 6 * 6 * 2 * 2 * 2 * 2 = 576 of all rounds, 10 lines but 5: 18,432 ways
         HandleFaces x = Checks.drawn(THREE_THREE + "line a b;");
         CHECKS.due("all(0)", x.all(0), 576);
         CHECKS.due("K3,3 and a line", x.capped(), 1);
