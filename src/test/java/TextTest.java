@@ -79,108 +79,102 @@ public final class TextTest {
         CHECKS.due("6 posts and 10 lines", x.count(0) * 100 + x.count(1), 610);
     }
 
-    private static void fault(String text, int fault, int place) {
-        HandleFaces x = new HandleFaces();
-        CHECKS.due("read [" + text + "]", Checks.read(x, text), fault);
-        CHECKS.due("place [" + text + "]", x.place(), place);
-    }
-
     private static void tokens() {
-        fault("post abcdefghi;", 1, 5);
-        fault(TWO + "line a b;round a 00000;", 1, 31);
-        fault("post A;", 1, 5);
-        fault("post a:", 1, 6);
-        fault("post {;", 1, 5);
-        fault("post `;", 1, 5);
-        fault("post a\0;", 1, 6);
-        fault("post a\u000b;", 1, 6);
-        fault("post a\f;", 1, 6);
-        fault("post \u00e1;", 1, 5);
-        fault("posta;", 1, 0);
-        fault("post a1;", 1, 6);
-        fault("-", 1, 0);
-        fault("0", 1, 0);
+        CHECKS.fault("post abcdefghi;", 1, 5);
+        CHECKS.fault(TWO + "line a b;round a 00000;", 1, 31);
+        CHECKS.fault("post A;", 1, 5);
+        CHECKS.fault("post a:", 1, 6);
+        CHECKS.fault("post {;", 1, 5);
+        CHECKS.fault("post `;", 1, 5);
+        CHECKS.fault("post a\0;", 1, 6);
+        CHECKS.fault("post a\u000b;", 1, 6);
+        CHECKS.fault("post a\f;", 1, 6);
+        CHECKS.fault("post \u00e1;", 1, 5);
+        CHECKS.fault("posta;", 1, 0);
+        CHECKS.fault("post a1;", 1, 6);
+        CHECKS.fault("-", 1, 0);
+        CHECKS.fault("0", 1, 0);
     }
 
     private static void syntax() {
-        fault("post", 1, 4);
-        fault("post a", 1, 6);
-        fault("post a \n", 1, 8);
-        fault(";", 1, 0);
-        fault("post ;", 1, 5);
-        fault("post post;", 1, 5);
-        fault("post twisted;", 1, 5);
-        fault("post 1;", 1, 5);
-        fault("post a b;", 1, 7);
-        fault("post a;;", 1, 7);
-        fault("twisted;", 1, 0);
-        fault("line a;", 1, 6);
-        fault("line a b c;", 1, 9);
-        fault("line a b twisted twisted;", 1, 17);
-        fault("line a line;", 1, 7);
-        fault("line a b twisted", 1, 16);
-        fault("round a;", 1, 7);
-        fault("round 1;", 1, 6);
-        fault("round a 1 b;", 1, 10);
-        fault("round a 1 twisted;", 1, 10);
-        fault("round a 1 2", 1, 11);
+        CHECKS.fault("post", 1, 4);
+        CHECKS.fault("post a", 1, 6);
+        CHECKS.fault("post a \n", 1, 8);
+        CHECKS.fault(";", 1, 0);
+        CHECKS.fault("post ;", 1, 5);
+        CHECKS.fault("post post;", 1, 5);
+        CHECKS.fault("post twisted;", 1, 5);
+        CHECKS.fault("post 1;", 1, 5);
+        CHECKS.fault("post a b;", 1, 7);
+        CHECKS.fault("post a;;", 1, 7);
+        CHECKS.fault("twisted;", 1, 0);
+        CHECKS.fault("line a;", 1, 6);
+        CHECKS.fault("line a b c;", 1, 9);
+        CHECKS.fault("line a b twisted twisted;", 1, 17);
+        CHECKS.fault("line a line;", 1, 7);
+        CHECKS.fault("line a b twisted", 1, 16);
+        CHECKS.fault("round a;", 1, 7);
+        CHECKS.fault("round 1;", 1, 6);
+        CHECKS.fault("round a 1 b;", 1, 10);
+        CHECKS.fault("round a 1 twisted;", 1, 10);
+        CHECKS.fault("round a 1 2", 1, 11);
     }
 
     private static void room() {
         String six = "post a;post b;post c;post d;post e;post f;";
-        fault(six + "  post g;", 2, 44);
-        fault(six + "post a;", 2, 42);
-        fault(six + "post ", 2, 42);
-        fault(TWO + "line a b;".repeat(10) + " line a b;", 2, 105);
-        fault(TWO + "line a b;".repeat(10) + "line a a;", 2, 104);
+        CHECKS.fault(six + "  post g;", 2, 44);
+        CHECKS.fault(six + "post a;", 2, 42);
+        CHECKS.fault(six + "post ", 2, 42);
+        CHECKS.fault(TWO + "line a b;".repeat(10) + " line a b;", 2, 105);
+        CHECKS.fault(TWO + "line a b;".repeat(10) + "line a a;", 2, 104);
         String full = TWO + "line a b;line a b twisted;" + "round a 0 1;".repeat(77);
-        fault(full, 0, -1);
-        fault(full + " ", 0, -1);
-        fault(full + "round a 0 1;", 2, full.length());
-        fault(full + "round", 2, full.length());
-        fault(full + ";", 1, full.length());
-        fault(full + "!", 1, full.length());
+        CHECKS.fault(full, 0, -1);
+        CHECKS.fault(full + " ", 0, -1);
+        CHECKS.fault(full + "round a 0 1;", 2, full.length());
+        CHECKS.fault(full + "round", 2, full.length());
+        CHECKS.fault(full + ";", 1, full.length());
+        CHECKS.fault(full + "!", 1, full.length());
         String cut = full.substring(0, full.length() - 1);
-        fault(cut, 1, cut.length());
-        fault(cut + " 1;", 2, cut.length() + 2);
-        fault(cut + " 1 1;", 2, cut.length() + 3);
+        CHECKS.fault(cut, 1, cut.length());
+        CHECKS.fault(cut + " 1;", 2, cut.length() + 2);
+        CHECKS.fault(cut + " 1 1;", 2, cut.length() + 3);
     }
 
     private static void twiceAndName() {
-        fault("post a;post a;", 3, 12);
-        fault("post a;post b;post a;post b;", 3, 19);
-        fault("post a;line a a;", 3, 14);
-        fault("line a a;", 4, 5);
-        fault("post a;line a b;", 4, 14);
-        fault("post b;line a b;", 4, 12);
-        fault("round a 0;", 4, 6);
-        fault("round a 0;post b;", 4, 6);
-        fault("post ab;post aba;line ab abb;", 4, 25);
+        CHECKS.fault("post a;post a;", 3, 12);
+        CHECKS.fault("post a;post b;post a;post b;", 3, 19);
+        CHECKS.fault("post a;line a a;", 3, 14);
+        CHECKS.fault("line a a;", 4, 5);
+        CHECKS.fault("post a;line a b;", 4, 14);
+        CHECKS.fault("post b;line a b;", 4, 12);
+        CHECKS.fault("round a 0;", 4, 6);
+        CHECKS.fault("round a 0;post b;", 4, 6);
+        CHECKS.fault("post ab;post aba;line ab abb;", 4, 25);
     }
 
     private static void wrongAndLacks() {
-        fault("post a;round a 0;", 5, 15);
-        fault(TWO + "line a b;round a 1;", 5, 31);
-        fault(TWO + "line a b;round a 0 0;", 5, 33);
-        fault(TWO + "line a b;round a 9999;", 5, 31);
-        fault(TWO + "line a b;round a 32;", 5, 31);
-        fault(TWO + "line a b;round a 64;", 5, 31);
-        fault(TWO + "post c;line a b;line b c;round a 0 1;", 5, 49);
-        fault(TWO + "line a b;line a b;round a 1 ;", 6, 42);
-        fault(TWO + "line a b;line a b;round a 1;round a 0 1;", 6, 41);
-        fault("round a 0;" + TWO + "line a b;line a b;", 6, 9);
-        fault("round a 0 1;" + TWO + "line a b;line a b;", 0, -1);
+        CHECKS.fault("post a;round a 0;", 5, 15);
+        CHECKS.fault(TWO + "line a b;round a 1;", 5, 31);
+        CHECKS.fault(TWO + "line a b;round a 0 0;", 5, 33);
+        CHECKS.fault(TWO + "line a b;round a 9999;", 5, 31);
+        CHECKS.fault(TWO + "line a b;round a 32;", 5, 31);
+        CHECKS.fault(TWO + "line a b;round a 64;", 5, 31);
+        CHECKS.fault(TWO + "post c;line a b;line b c;round a 0 1;", 5, 49);
+        CHECKS.fault(TWO + "line a b;line a b;round a 1 ;", 6, 42);
+        CHECKS.fault(TWO + "line a b;line a b;round a 1;round a 0 1;", 6, 41);
+        CHECKS.fault("round a 0;" + TWO + "line a b;line a b;", 6, 9);
+        CHECKS.fault("round a 0 1;" + TWO + "line a b;line a b;", 0, -1);
     }
 
     private static void firstFaultTells() {
-        fault("line x y;post a;post a", 1, 22);
-        fault("post a;line a a;line x a;", 3, 14);
-        fault("post a;line x a;line a a;", 4, 12);
-        fault("round a 0;post a;post a;", 5, 8);
-        fault("post a;post a;round a 0;", 3, 12);
-        fault("round a 0;post a;line a b;", 4, 24);
-        fault("round a 0;post a;line a b;line a c;", 6, 9);
-        fault(TWO + "line a b;round c 5;round a 5;", 4, 29);
+        CHECKS.fault("line x y;post a;post a", 1, 22);
+        CHECKS.fault("post a;line a a;line x a;", 3, 14);
+        CHECKS.fault("post a;line x a;line a a;", 4, 12);
+        CHECKS.fault("round a 0;post a;post a;", 5, 8);
+        CHECKS.fault("post a;post a;round a 0;", 3, 12);
+        CHECKS.fault("round a 0;post a;line a b;", 4, 24);
+        CHECKS.fault("round a 0;post a;line a b;line a c;", 6, 9);
+        CHECKS.fault(TWO + "line a b;round c 5;round a 5;", 4, 29);
     }
 
     private static void whatReadChanges() {
