@@ -55,9 +55,9 @@ public final class CountEdgeTest {
     }
 
     private static void orderOfAll() {
-        CHECKS.sentence("POST by POST, each one's ROUND begins with its least LINE, then the least row is ahead (the first "
-            + "POST tells first)");
-        HandleFaces x = Checks.drawn("post a;post b;post c;line b c;line a b;line a b;line a b;round a 3 2 1;round b 3 2 1 0;");
+        CHECKS.sentence("POST by POST, each one's ROUND begins with its least LINE, then the least row is ahead "
+            + "(the first POST tells first)");
+        HandleFaces x = Checks.drawn(Checks.tells(3, "bc", "ab", "ab", "ab") + "round a 3 2 1;round b 3 2 1 0;");
         String[] rows = {"0123", "0132", "0213", "0231", "0312", "0321"};
         for (int n = 0; n < 12; n++) {
             CHECKS.due("post 0 of " + n, row(x, n, 0), n < 6 ? "123" : "132");
@@ -112,6 +112,13 @@ public final class CountEdgeTest {
             sum += many;
         }
         CHECKS.due("17,280 in all", sum, 17280);
+        // a has two lines to b and two to c: it needs a handle just if they stand by turns round it
+        HandleFaces pairs = Checks.drawn(3, "ab", "ab", "ac", "ac");
+        CHECKS.due("0213 and 0312 need one", pairs.needing(0) * 10 + pairs.needing(1), 42);
+        CHECKS.due("the first needs none", pairs.all(3), 0);
+        HandleFaces turns = Checks.drawn(3, "ab", "ac", "ab", "ac");
+        CHECKS.due("0123 and 0321 need one", turns.needing(0) * 10 + turns.needing(1), 42);
+        CHECKS.due("the second needs none", turns.all(3), 1);
         for (int handles : outside(6)) {
             CHECKS.due("needing(" + handles + ")", below.needing(handles), 0);
         }
@@ -165,6 +172,7 @@ public final class CountEdgeTest {
         CHECKS.due("K3,3 without a line", three.capped(), 0);
         three.undo();
         CHECKS.due("K3,3 again", three.capped(), 1);
+        cappedInAnyOrder();
         CHECKS.sentence("ALL ROUNDS times 2 for each LINE, but one for each POST less PARTS, are more than 20,000");
         HandleFaces near = Checks.drawn(4, "ab", "ab", "ab", "ac", "ad", "bc", "bc");
         CHECKS.due("24 * 24 * 2 of all rounds", near.all(0), 1152);
@@ -186,9 +194,27 @@ public final class CountEdgeTest {
         CHECKS.due("K3,3 and a line: 576 times 32", more.capped(), 1);
     }
 
+    /** In whichever order and way the lines of K3,3, and one line more, are told. */
+    private static void cappedInAnyOrder() {
+        java.util.Random random = new java.util.Random(11);
+        for (int k = 0; k < 120; k++) {
+            java.util.List<String> lines = new java.util.ArrayList<>(java.util.List.of(THREE_THREE));
+            boolean more = k % 3 == 0;
+            if (more) {
+                lines.add(k % 2 == 0 ? "ab" : "ad");
+            }
+            java.util.Collections.shuffle(lines, random);
+            lines.replaceAll(line -> random.nextBoolean() ? line : "" + line.charAt(1) + line.charAt(0));
+            HandleFaces x = Checks.drawn(6, lines.toArray(new String[0]));
+            CHECKS.due("K3,3 told as " + lines, x.capped(), 1);
+            x.goes(lines.size() - 1);
+            CHECKS.due("K3,3 told as " + lines + " without the last one", x.capped(), x.all(1));
+        }
+    }
+
     private static void ringsAndBound() {
-        CHECKS.sentence("none of the POSTS and LINES twice, and back to the first one (two LINES that join the same two POSTS "
-            + "are one)");
+        CHECKS.sentence("none of the POSTS and LINES twice, and back to the first one "
+            + "(two LINES that join the same two POSTS are one)");
         CHECKS.due("no posts", new HandleFaces().count(7), 0);
         CHECKS.due("one line there and back", Checks.drawn(2, "ab").count(7), 0);
         CHECKS.due("two lines", Checks.drawn(2, "ab", "ba").count(7), 1);
@@ -198,6 +224,17 @@ public final class CountEdgeTest {
         CHECKS.due("two rings apart", Checks.drawn(6, "ab", "bc", "ca", "de", "ef", "fd").count(7), 2);
         CHECKS.due("K4: 4 of 3, 3 of 4", Checks.drawn(4, FOUR).count(7), 7);
         CHECKS.due("K3,3: 9 of 4, 6 of 6", Checks.drawn(6, THREE_THREE).count(7), 15);
+        HandleFaces asked = Checks.drawn(4, FOUR);
+        CHECKS.due("asked once", asked.count(7), 7);
+        CHECKS.due("asked twice", asked.count(7), 7);
+        CHECKS.due("girth", asked.bound(1), 3);
+        asked.goes(0);
+        CHECKS.due("without a line", asked.count(7), 3);
+        asked.goes(0);
+        CHECKS.due("without two lines: the ring b c d", asked.count(7), 1);
+        asked.goes(1);
+        CHECKS.due("without three lines", asked.count(7), 0);
+        CHECKS.due("without three lines: girth", asked.bound(1), -2);
         CHECKS.sentence("GIRTH: how many LINES the shortest one has");
         String[] ring = {"ab", "bc", "cd", "de", "ef", "fa"};
         for (int length = 2; length <= 6; length++) {
@@ -294,7 +331,7 @@ public final class CountEdgeTest {
     private static void straight() {
         CHECKS.sentence("STRAIGHT: half of its LINES, an even number, behind");
         // half round: 0 and 2, 1 and 3 at a; 0 and 1, 2 and 3 at b
-        CHECKS.due("four lines", Checks.drawn("post a;post b;line a b;line a b;line a b;line a b;round b 0 2 1 3;").count(12), 1);
+        CHECKS.due("four lines", Checks.drawn(Checks.tells(2, Checks.times(4, "ab")) + "round b 0 2 1 3;").count(12), 1);
         CHECKS.due("four lines by numbers", Checks.drawn(2, Checks.times(4, "ab")).count(12), 2);
         CHECKS.due("two lines", Checks.drawn(2, "ab", "ab").count(12), 1);
         CHECKS.due("ten lines by numbers: i and i + 5 at both", Checks.drawn(2, Checks.times(10, "ab")).count(12), 5);
@@ -314,6 +351,9 @@ public final class CountEdgeTest {
         CHECKS.due("no faces: greatest", new HandleFaces().count(4), 0);
         CHECKS.due("no faces: least", new HandleFaces().count(5), 0);
         CHECKS.due("a bare post: greatest", Checks.drawn(1).count(4), 0);
+        CHECKS.due("one line: greatest", Checks.drawn(2, "ab").count(4), 2);
+        String[] longest = {"ab", "ab", "ab", "ab", "ab", "ab", "ab", "ab", "ab", "bc"};
+        CHECKS.due("the longest: greatest", Checks.drawn(3, longest).count(4), 20);
         CHECKS.due("one line: least", Checks.drawn(2, "ab").count(5), 2);
         HandleFaces x = Checks.drawn(5, "ab", "ab", "cd", "de", "ec");
         CHECKS.due("greatest is the last", x.count(4), 3);
@@ -321,6 +361,13 @@ public final class CountEdgeTest {
         HandleFaces y = Checks.drawn(5, "cd", "de", "ec", "ab", "ab");
         CHECKS.due("greatest is the first", y.count(4), 3);
         CHECKS.due("least is the last", y.count(5), 2);
+        for (String text : new String[] {"round c 1 2 3;", "round c 1 3 2;"}) {
+            // the line to d stands on the one side of the ring, or on the other one
+            HandleFaces z = Checks.drawn(Checks.tells(4, "ab", "bc", "ca", "cd") + text);
+            CHECKS.due("greatest of two: " + text, z.count(4), 5);
+            CHECKS.due("least of two: " + text, z.count(5), 3);
+            CHECKS.due("which is the first: " + text, z.face(0, -1), text.contains("2 3") ? 3 : 5);
+        }
         CHECKS.due("a ring and a bare post: least", Checks.drawn(4, "ab", "bc", "ca").count(5), 0);
         CHECKS.sentence("3 TWISTED ones (bits)");
         CHECKS.due("all of 10", Checks.drawn(2, Checks.times(10, "ab~")).count(3), 1023);

@@ -39,7 +39,8 @@ public final class FaceEdgeTest {
     private static void behindAndAhead() {
         CHECKS.sentence("to the ARM behind it in the ROUND of the POST there (FORTH), or ahead of it (BACK)");
         // forth: behind 0 at b stands 2, behind 2 at a (the last) stands 0
-        CHECKS.due("forth", Checks.walk(Checks.drawn("post a;post b;line a b;line a b;line a b;round b 0 2 1;"), 0), "02");
+        HandleFaces plain = Checks.drawn(Checks.tells(2, "ab", "ab", "ab") + "round b 0 2 1;");
+        CHECKS.due("forth", Checks.walk(plain, 0), "02");
         // the first line turns the sense: ahead of 0 at b (the first) stands 1, its last one; ahead of 1 at a stands 0
         HandleFaces x = Checks.drawn("post a;post b;line a b twisted;line a b;line a b;round b 0 2 1;");
         // a0 forth, b1 back, a0 back, b2 forth, a0 forth
@@ -109,8 +110,8 @@ public final class FaceEdgeTest {
     }
 
     private static void numberedByFirstArm() {
-        CHECKS.sentence("FACES are numbered by the first of all ARMS with FORTH, then with BACK (ARMS by LINE, of one LINE "
-            + "that of its first POST ahead)");
+        CHECKS.sentence("FACES are numbered by the first of all ARMS with FORTH, then with BACK "
+            + "(ARMS by LINE, of one LINE that of its first POST ahead)");
         HandleFaces x = Checks.drawn(3, "ab", "bc", "ca");
         CHECKS.due("from a along 0", Checks.walk(x, 0), "012");
         CHECKS.due("from b along 0", Checks.walk(x, 1), "021");
@@ -198,6 +199,10 @@ public final class FaceEdgeTest {
         CHECKS.due("bare posts", Checks.drawn(6).surface(0), 1);
         CHECKS.due("none twisted", planeFour().surface(0), 1);
         CHECKS.due("a tree, all twisted", Checks.drawn(6, "ab~", "cb~", "cd~", "ed~", "ef~").surface(0), 1);
+        CHECKS.due("one line told from the last post", Checks.drawn(2, "ba~").surface(0), 1);
+        CHECKS.due("a path told from the last post", Checks.drawn(4, "dc~", "cb", "ba~").surface(0), 1);
+        CHECKS.due("a ring told from the last post", Checks.drawn(4, "dc~", "cb", "ba~", "da").surface(0), 1);
+        CHECKS.due("a ring told from the last post", Checks.drawn(4, "dc~", "cb", "ba~", "da~").surface(0), 0);
         CHECKS.due("a ring of 3, all twisted", Checks.drawn(3, "ab~", "bc~", "ca~").surface(0), 0);
         CHECKS.due("a ring of 6, all twisted", Checks.drawn(6, "ab~", "bc~", "cd~", "de~", "ef~", "fa~").surface(0), 1);
         CHECKS.due("two of the same two, both", Checks.drawn(2, "ab~", "ba~").surface(0), 1);
@@ -324,7 +329,8 @@ public final class FaceEdgeTest {
     }
 
     private static void beside() {
-        CHECKS.sentence("BESIDE: two FACES (or one and itself) if some LINE is gone through by both (by the one on both sides)");
+        CHECKS.sentence("BESIDE: two FACES (or one and itself) if some LINE is gone through by both "
+            + "(by the one on both sides)");
         HandleFaces x = Checks.drawn(4, "ab", "bc", "ca", "cd");
         int bridged = x.line(3, 3);
         CHECKS.due("one and itself, and the other", x.beside(bridged), 3);
@@ -342,7 +348,8 @@ public final class FaceEdgeTest {
     }
 
     private static void colours() {
-        CHECKS.sentence("COLOURS: the fewest by which all FACES get one each so that no two BESIDE one another have the same");
+        CHECKS.sentence("COLOURS: the fewest by which all FACES get one each "
+            + "so that no two BESIDE one another have the same");
         CHECKS.due("no faces", new HandleFaces().colours(), 0);
         CHECKS.due("one bare post", Checks.drawn(1).colours(), 1);
         CHECKS.due("6 bare posts", Checks.drawn(6).colours(), 1);

@@ -203,7 +203,8 @@ public final class HandEdgeTest {
     }
 
     private static void flip() {
-        CHECKS.sentence("turning a POST over: its ROUND is the other way round, each of its LINES is TWISTED if it was not");
+        CHECKS.sentence("turning a POST over: its ROUND is the other way round, "
+            + "each of its LINES is TWISTED if it was not, else not");
         HandleFaces x = Checks.drawn(6, "ab", "ac~", "ad", "bf", "af");
         CHECKS.due("flip(0)", x.flip(0), true);
         CHECKS.shows("turned over", x, "01~ 02 03~ 15 05~ : 4210/03/1/2//34");
@@ -399,8 +400,8 @@ public final class HandEdgeTest {
         HandleFaces ring = Checks.drawn(3, "ab", "bc", "ca");
         CHECKS.due("dual", ring.dual(), 2);
         CHECKS.due("twisted ones", ring.count(3), 0);
-        // one post turned over: face 0 forth from a along 0, back from b along 1; face 1 forth from a along 1, back from b
-        // along 0
+        // one post turned over: face 0 forth from a along 0, back from b along 1; face 1 forth from a along 1, back
+        // from b along 0
         HandleFaces plane = Checks.drawn(2, "ab", "ab");
         plane.flip(1);
         CHECKS.due("dual of one turned over", plane.dual(), 2);
@@ -501,6 +502,15 @@ public final class HandEdgeTest {
         CHECKS.due("no more", x.undo(), false);
     }
 
+    /** All walks, and which lines are twisted. */
+    private static String faces(HandleFaces x) {
+        StringBuilder out = new StringBuilder();
+        for (int face = 0; face < x.count(2); face++) {
+            out.append(Checks.walk(x, face)).append('/');
+        }
+        return out.append(x.count(3)).append('/').append(x.count(4)).toString();
+    }
+
     /** Each of the eight things, alone. */
     private static void everyThingByHand() {
         CHECKS.sentence("all undone");
@@ -510,7 +520,7 @@ public final class HandEdgeTest {
             x.hold(0);
             x.twist(2);
             String before = Checks.look(x);
-            int faces = x.count(2);
+            String faces = faces(x);
             boolean done = false;
             switch (thing) {
                 case 0 -> done = x.lay(0, 2, 3, 1, true) == 6;
@@ -524,10 +534,12 @@ public final class HandEdgeTest {
             }
             CHECKS.due("thing " + thing + " is done", done, true);
             CHECKS.due("thing " + thing + " changes", Checks.look(x).equals(before), false);
+            // faces asked for ahead of undo() must not be told behind it
+            CHECKS.due("thing " + thing + " has faces", faces(x).isEmpty(), false);
             CHECKS.due("things to undo", x.count(10), 2);
             CHECKS.due("undo", x.undo(), true);
             CHECKS.shows("thing " + thing + " undone", x, before);
-            CHECKS.due("faces", x.count(2), faces);
+            CHECKS.due("faces", faces(x), faces);
             CHECKS.due("things to undo", x.count(10), 1);
             CHECKS.due("slots", x.count(11), 1);
         }
@@ -625,7 +637,9 @@ public final class HandEdgeTest {
         HandleFaces x = Checks.drawn(2, "ab", "ab");
         x.twist(1);
         x.hold(1);
-        x.goes(0);
+        x.goes(1);
+        x.lay(0, 0, 1, 0, false);
+        CHECKS.due("faces", x.count(2), 2);
         CHECKS.due("restore(1)", x.restore(1), true);
         CHECKS.due("things to undo", x.count(10), 0);
         CHECKS.due("undo", x.undo(), false);

@@ -98,7 +98,8 @@ public final class TextEdgeTest {
     private static void eightLetters() {
         CHECKS.sentence("8 at most");
         HandleFaces x = new HandleFaces();
-        String text = "post zzzzzzzz;post zzzzzzzy;post yzzzzzzz;post zzzzzzz;line zzzzzzzz zzzzzzz;line yzzzzzzz zzzzzzzy;";
+        String text = "post zzzzzzzz;post zzzzzzzy;post yzzzzzzz;post zzzzzzz;"
+            + "line zzzzzzzz zzzzzzz;line yzzzzzzz zzzzzzzy;";
         CHECKS.due("read", Checks.read(x, text), 0);
         CHECKS.shows("names that differ by one letter", x, "03 21 : 0/1/1/0");
         CHECKS.fault("post abcdefghi;", 1, 5);
@@ -118,6 +119,9 @@ public final class TextEdgeTest {
             CHECKS.fault("post x" + word + ";", 0, -1);
             CHECKS.fault("post " + word.substring(1) + ";", 0, -1);
             CHECKS.fault("post " + word.substring(0, word.length() - 1) + ";", 0, -1);
+            for (int i = 0; i < word.length(); i++) {
+                CHECKS.fault("post " + word.substring(0, i) + "z" + word.substring(i + 1) + ";", 0, -1);
+            }
         }
         for (String word : List.of("post", "line", "round")) {
             CHECKS.fault(PAIR + "line a " + word + ";", 1, 21);
@@ -376,6 +380,28 @@ public final class TextEdgeTest {
         CHECKS.fault("post a;post b;post c;post d;post e;post a;", 3, 40);
         CHECKS.fault("post aa;post a;post aaa;", 0, -1);
         CHECKS.fault("line a b;post a;post b;", 0, -1);
+        unlikeNames();
+    }
+
+    /** No two names that differ by one letter, or by one more in front, are taken for one another. */
+    private static void unlikeNames() {
+        for (char one = 'a'; one <= 'z'; one++) {
+            for (char other = 'a'; other <= 'z'; other++) {
+                for (int at = 0; at < 8 && one < other; at++) {
+                    String left = "mnopqrst".substring(0, at);
+                    String right = "mnopqrst".substring(at + 1);
+                    unlike(left + one + right, left + other + right);
+                    unlike(left + one, left + other);
+                }
+                unlike("" + one, "" + other + one);
+                unlike("" + one, "" + one + other);
+            }
+        }
+    }
+
+    private static void unlike(String one, String other) {
+        CHECKS.due("post " + one + ";post " + other + ";", Checks.read(new HandleFaces(), "post " + one + ";post " + other
+            + ";"), 0);
     }
 
     private static void secondIsItsFirst() {
@@ -497,6 +523,43 @@ public final class TextEdgeTest {
         Checks.read(y, PAIR + "line a b;line a b;");
         CHECKS.due("all(2)", y.all(2), 0);
         CHECKS.due("needing(0)", y.needing(0), 1);
+        unlikeNetworks();
+    }
+
+    /** One object is told networks that differ by one end of one line, or by one line, and answers as a new one does. */
+    private static void unlikeNetworks() {
+        String[] base = {"ab", "bc", "ca", "ad", "cd", "ab", "bd"};
+        for (int at = 0; at < 2 * base.length; at++) {
+            HandleFaces used = Checks.drawn(4, base);
+            askAll(used, Checks.drawn(4, base));
+            for (char post = 'a'; post <= 'd'; post++) {
+                StringBuilder line = new StringBuilder(base[at / 2]);
+                line.setCharAt(at % 2, post);
+                if (line.charAt(0) != line.charAt(1)) {
+                    String[] lines = base.clone();
+                    lines[at / 2] = line.toString();
+                    Checks.read(used, Checks.tells(4, lines));
+                    askAll(used, Checks.drawn(4, lines));
+                }
+            }
+        }
+        HandleFaces used = new HandleFaces();
+        for (int lines = base.length; lines >= 0; lines--) {
+            Checks.read(used, Checks.tells(4, java.util.Arrays.copyOf(base, lines)));
+            askAll(used, Checks.drawn(4, java.util.Arrays.copyOf(base, lines)));
+        }
+    }
+
+    private static void askAll(HandleFaces used, HandleFaces fresh) {
+        String look = Checks.look(fresh);
+        CHECKS.shows("read", used, look);
+        for (int handles = 0; handles <= 2; handles++) {
+            CHECKS.due("needing(" + handles + ") of " + look, used.needing(handles), fresh.needing(handles));
+        }
+        CHECKS.due("all(3) of " + look, used.all(3), fresh.all(3));
+        CHECKS.due("bound(1) of " + look, used.bound(1), fresh.bound(1));
+        CHECKS.due("count(7) of " + look, used.count(7), fresh.count(7));
+        CHECKS.due("capped() of " + look, used.capped(), fresh.capped());
     }
 
     private static void nothingCanBeUndone() {
