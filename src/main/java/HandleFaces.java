@@ -1529,8 +1529,9 @@ public final class HandleFaces {
         void search(Drawing drawing) {
             count = 0;
             girth = 0;
-            for (start = 0; start < drawing.posts; start++) {
-                goOn(this, drawing, start, NONE, 1 << start, 0);
+            for (int post = 0; post < drawing.posts; post++) {
+                start = post;
+                goOn(this, drawing, post, NONE, 1 << post, 0);
             }
             count /= 2;
         }
