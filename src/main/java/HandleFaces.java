@@ -151,10 +151,11 @@ public final class HandleFaces {
     }
 
     public int dual() {
-        if (!hasDual()) {
+        Tracing faces = freshTracing();
+        if (!hasDual(faces)) {
             return NONE;
         }
-        buildDual(draft);
+        buildDual(faces, draft);
         keepPast();
         drawing.become(draft);
         return drawing.posts;
@@ -412,13 +413,11 @@ public final class HandleFaces {
         return tracing;
     }
 
-    private boolean hasDual() {
-        Tracing faces = freshTracing();
+    private boolean hasDual(Tracing faces) {
         return faces.count <= MOST_POSTS && drawing.barePosts() == 0 && faces.oneSidedLines(drawing.lines) == 0;
     }
 
-    private void buildDual(Drawing into) {
-        Tracing faces = freshTracing();
+    private void buildDual(Tracing faces, Drawing into) {
         into.posts = Math.min(faces.count, MOST_POSTS);
         into.lines = drawing.lines;
         into.twists = 0;
@@ -483,7 +482,7 @@ public final class HandleFaces {
         }
 
         int armAt(int post, int i) {
-            int arm = 2 * lineAt(post, i);
+            int arm = 2 * rounds[post * MOST_LINES + i];
             return ends[arm] == post ? arm : arm + 1;
         }
 
